@@ -56,6 +56,16 @@ public final class CheaperTest {
         dueMore(x, 0, 0, 3, 0, 0, 0, 0, 0, 0, 0, 0, 0, 0);
         Due.fill(x, 0, 0, 0, 0, 0, 0, 0, 0, 9);
         dueMore(x, 0, 0, 3, 0, 0, 0, 0, 0, 0, 0, 0, 1, 0);
+        int[] prices = {6, 4, 10, 10, 10, 10, 10, 3};
+        for (int i = 0; i < 8; i++) {
+            x.thing(i, 0, prices[i]);
+        }
+        Due.fill(x, 0, 0, 1);
+        // two of THING 7 would do, too: their row is less, but they are more
+        dueMore(x, 0, 0, 2, 0, 0, 1, 0, 0, 0, 0, 0, 0, 0);
+        for (int i = 0; i < 8; i++) {
+            x.thing(i, 0, 5);
+        }
         Due.law(x, 1, "1");
         Due.fill(x, 0, 1);
         dueMore(x, 0, 0, 4, 0, -3, 0, 0, 0, 0, 0, 0, 0, 3);
@@ -89,6 +99,10 @@ public final class CheaperTest {
         Due.fill(x, 0, 1, 1, 1);
         DUE.is("15 and 25, or 7 at LAST", x.inTwo(0, 1), 7);
         x.till(2, 68);
+        Due.law(x, 0, "(s>30)*500+s");
+        DUE.is("25 and 22", x.inTwo(0, 2), 47);
+        x.thing(2, 0, 4);
+        DUE.is("15 and 29", x.inTwo(0, 2), 44);
         Due.law(x, 0, "k*k");
         Due.fill(x, 0, 7, 0, 0, 5);
         DUE.is("six and six", x.inTwo(0, 2), 72);
@@ -144,6 +158,10 @@ public final class CheaperTest {
         DUE.is("missing", x.worth(3, 0, 7), Due.NONE);
         x.sheet(0, 8, 0);
         DUE.is("to nothing", x.worth(0, 0, 1), -9);
+        x.till(1, 60);
+        Due.law(x, 0, "k*k");
+        Due.fill(x, 0, 4);
+        DUE.is("one more alone", x.worth(0, 1, 7), 16 - 25);
     }
 
     private static void dearer() {
@@ -158,6 +176,8 @@ public final class CheaperTest {
         x.thing(0, 0, 9999);
         DUE.is("none above 9999", x.dearer(0, 0, 0), 0);
         DUE.is("the PRICE is as it was", x.thingIs(0, 0), 9999);
+        x.thing(0, 0, 8);
+        DUE.is("for nine, one more", x.dearer(0, 0, 0), 1);
         x.thing(7, 0, 10);
         Due.fill(x, 0, 0, 0, 0, 0, 0, 0, 0, 1);
         DUE.is("the last thing", x.dearer(0, 0, 0), 79);
@@ -170,8 +190,14 @@ public final class CheaperTest {
         x.thing(1, 0, 10);
         // at 10 and 11 a thing 1 is taken along, at 12 it isn't
         DUE.is("VALUES by that PRICE", x.dearer(0, 1, 1), 9);
+        Due.law(x, 1, "(t=2)*(p<26)*90");
+        x.thing(2, 0, 20);
+        // one of THING 2 for 5 more is less than THING 0 for 9 more; two of it are more
+        DUE.is("by one more", x.dearer(0, 1, 1), 9);
+        DUE.is("by two more", x.dearer(0, 1, 2), 25);
         x.thing(0, 0, 9999);
         x.thing(1, 0, 1);
+        Due.law(x, 1, "0");
         DUE.is("held", x.dearer(0, 1, 1), 0);
         DUE.is("e above", x.dearer(0, 0, 3), Due.BEYOND);
         DUE.is("e below", x.dearer(0, 0, -1), Due.BEYOND);
@@ -187,6 +213,11 @@ public final class CheaperTest {
         }
         DUE.is("by nine", x.nines(-1), 1);
         DUE.is("least", x.nines(0), 9);
+        x.thing(0, 0, 1);
+        DUE.is("not by nine", x.nines(-1), 0);
+        x.thing(0, 0, 9);
+        x.till(3, 13);
+        DUE.is("the last till", x.nines(3), 0);
         x.thing(7, 0, 73);
         DUE.is("not by nine", x.nines(-1), 0);
         x.till(1, 60);

@@ -30,10 +30,13 @@ public final class ImagesTest {
         x.thing(1, 1, 61);
         x.thing(1, 2, 62);
         x.till(2, 33);
-        Due.feed(x, "+1");
         x.text(0);
+        Due.feed(x, "s*99");
         x.untell(1);
+        x.check(2);
         x.tell(5);
+        x.tell(6);
+        x.go(0, 0);
         x.draws(9);
         x.voice(0, 0, 1);
         Due.fill(x, 0, 3);

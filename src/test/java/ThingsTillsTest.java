@@ -100,6 +100,8 @@ public final class ThingsTillsTest {
         FigureTill x = new FigureTill();
         for (int kind = 0; kind < 7; kind++) {
             x.till(1, 10 * kind + 8);
+            DUE.is("kind", x.tillIs(1, 0), kind);
+            DUE.is("kind and m", x.till(1, 10 * kind + 8), 10 * kind + 8);
             for (int as = 0; as < 7; as++) {
                 boolean is = above[kind].indexOf((char) ('0' + as)) >= 0;
                 DUE.is(kind + " as " + as, x.as(1, as), is ? 8 : Due.KIND);
