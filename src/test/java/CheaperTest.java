@@ -195,6 +195,9 @@ public final class CheaperTest {
         // one of THING 2 for 5 more is less than THING 0 for 9 more; two of it are more
         DUE.is("by one more", x.dearer(0, 1, 1), 9);
         DUE.is("by two more", x.dearer(0, 1, 2), 25);
+        Due.law(x, 0, "(k=1)*s");
+        DUE.is("one thing", x.dearer(0, 1, 0), 9);
+        Due.law(x, 0, "s");
         x.thing(0, 0, 9999);
         x.thing(1, 0, 1);
         Due.law(x, 1, "0");

@@ -20,7 +20,7 @@ public final class ImagesTest {
         Due.law(x, 0, "s+m");
         Due.law(x, 1, "t");
         Due.feed(x, "k+1");
-        x.tell(54);
+        x.tell(2);
         x.seed(77);
         Due.fill(x, 0, 1, 1);
         x.go(0, 2);
@@ -57,9 +57,9 @@ public final class ImagesTest {
         DUE.is("told stays", x.told(2), 2);
         DUE.is("the tape", x.text(0), 1);
         DUE.is("its text", x.asks(2, 100, 2), 3);
-        DUE.is("what waits", x.check(2), 1);
-        x.tell(2);
         DUE.is("what waits", x.check(2), 0);
+        x.tell(3);
+        DUE.is("what waits", x.check(2), 1);
         DUE.is("image", x.image(), 2);
         x.restore();
         DUE.is("how often stays", x.image(), 3);
