@@ -236,22 +236,31 @@ public final class CheaperTest {
         DUE.is("no such till", x.nines(-2), Due.BEYOND);
     }
 
-    private static void erring() {
+    /** A clerk of so many cases who takes 1 more, of a BASKET that pays so much. */
+    private static void erringOf(int paid, int u) {
         FigureTill x = new FigureTill();
         x.till(0, 60);
-        x.sheet(1, 8, 0);
+        Due.law(x, 0, "" + paid);
+        Due.fill(x, 0, 1);
+        for (int v = 0; v <= 16; v++) {
+            int above = (16 - u - v) * paid + u * (paid + 1) + v * Math.max(0, paid - 1);
+            int common = BigInteger.valueOf(above).gcd(BigInteger.valueOf(16)).intValue();
+            boolean together = u + v <= 16;
+            DUE.is("above", x.erring(0, 0, 17 * u + v, 0), together ? above / common : Due.BEYOND);
+            DUE.is("below", x.erring(0, 0, 17 * u + v, 1), together ? 16 / common : Due.BEYOND);
+        }
+    }
+
+    private static void erring() {
         for (int paid = 0; paid < 4; paid++) {
-            Due.law(x, 0, "" + paid);
-            Due.fill(x, 0, 1);
-            for (int odds = 0; odds < 17 * 17; odds++) {
-                int u = odds / 17;
-                int v = odds % 17;
-                int above = (16 - u - v) * paid + u * (paid + 1) + v * Math.max(0, paid - 1);
-                int common = BigInteger.valueOf(above).gcd(BigInteger.valueOf(16)).intValue();
-                DUE.is("above", x.erring(0, 0, odds, 0), u + v > 16 ? Due.BEYOND : above / common);
-                DUE.is("below", x.erring(0, 0, odds, 1), u + v > 16 ? Due.BEYOND : 16 / common);
+            for (int u = 0; u <= 16; u++) {
+                erringOf(paid, u);
             }
         }
+        FigureTill x = new FigureTill();
+        x.till(0, 60);
+        Due.fill(x, 0, 1);
+        x.sheet(1, 8, 0);
         DUE.is("for nothing", x.erring(1, 0, 16 * 17, 0), 0);
         DUE.is("for nothing", x.erring(1, 0, 16 * 17, 1), 1);
         DUE.is("odds below", x.erring(0, 0, -1, 0), Due.BEYOND);
