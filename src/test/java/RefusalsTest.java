@@ -33,6 +33,7 @@ public final class RefusalsTest {
         images();
         waiting();
         counts();
+        askingChangesNothing();
         DUE.end();
     }
 
@@ -404,5 +405,31 @@ public final class RefusalsTest {
         for (int k : new int[] {-1, 0, 7, MIN, MAX}) {
             TWIN.refused("told(" + k + ") is counted, too", Due.BEYOND, x -> x.told(k));
         }
+    }
+
+    /** Acts that only tell something leave all as it was when they aren't refused, too. */
+    private static void askingChangesNothing() {
+        Twin.Acts ready = filled(0, 2, 1, 0, 3);
+        TWIN.asks("thingIs", ready, x -> x.thingIs(5, 3));
+        TWIN.asks("tillIs", ready, x -> x.tillIs(3, 1));
+        TWIN.asks("as", ready, x -> x.as(1, 1));
+        TWIN.asks("figures", ready, x -> x.figures(19, 10));
+        TWIN.asks("asks", ready, x -> x.asks(0, 299970, 30));
+        TWIN.asks("basket", ready, x -> x.basket(0, 2));
+        TWIN.asks("pays", ready, x -> x.pays(0, 1));
+        TWIN.asks("more", ready, x -> x.more(0, 3, 4, -2));
+        TWIN.asks("inTwo", ready, x -> x.inTwo(0, 2));
+        TWIN.asks("together", ready, x -> x.together(0, 0, 0));
+        TWIN.asks("worth", ready, x -> x.worth(0, 1, 7));
+        TWIN.asks("dearer", ready, x -> x.dearer(0, 0, 2));
+        TWIN.asks("nines of PRICES", ready, x -> x.nines(-1));
+        TWIN.asks("nines", ready, x -> x.nines(0));
+        TWIN.asks("erring", ready, x -> x.erring(0, 0, 18, 0));
+        TWIN.asks("wasIn", ready, x -> x.wasIn(1, 9, 1));
+        TWIN.asks("body", ready, x -> x.body(5));
+        TWIN.asks("count", ready, x -> x.count(1));
+        TWIN.asks("told", ready, x -> x.told(6));
+        TWIN.asks("a move to where they are", ready, x -> x.move(0, 0, 0, 0, 5));
+        TWIN.asks("seed as it was", ready, x -> x.seed(x.count(7)));
     }
 }

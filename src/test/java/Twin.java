@@ -29,6 +29,13 @@ final class Twin {
         changes(call, error, ready, act, x -> 0);
     }
 
+    /** A call that answers no ERROR, and changes nothing. */
+    void asks(String call, Acts ready, Acts act) {
+        FigureTill alike = new FigureTill();
+        ready.on(alike);
+        changes(call, act.on(alike), ready, act, x -> 0);
+    }
+
     /** A call whose answer is due, and that changes what the calls like it change, no more. */
     void changes(String call, long answer, Acts ready, Acts act, Acts like) {
         FigureTill asked = new FigureTill();
